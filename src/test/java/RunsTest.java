@@ -44,6 +44,7 @@ public final class RunsTest {
         while (calls < CALLS) {
             one(below(44));
         }
+        Check.due("calls of a run beyond 512", Math.max(0, calls - 512), 0);
     }
 
     private void say(String call, long got, long want) {
