@@ -239,8 +239,7 @@ public final class CoverOrder {
     // ---- seen
 
     public int see(int v, int u, int had) {
-        boolean told = v >= 0 && v < MOST_KNOTS && u >= 0 && u < MOST_KNOTS && had >= 0 && had <= 1;
-        if (!told) {
+        if (v < 0 || v >= MOST_KNOTS || u < 0 || u >= MOST_KNOTS || had < 0 || had > 1) {
             return OUTSIDE;
         }
         if (seen.isFull()) {

@@ -15,6 +15,7 @@ public final class ActsTest {
         undoDeleted();
         undoMany();
         forgotten();
+        forgottenDeleted();
         stamp();
         edge();
         Check.end("ActsTest");
@@ -166,6 +167,26 @@ public final class ActsTest {
         Check.due("undo() of what is forgotten", x.undo(), CoverOrder.STATE);
         Check.dueRow("that can not be undone", x, "01:1 02:2");
         Check.due("count(6)", x.count(6), 3);
+    }
+
+    /** The oldest two acts are forgotten, not any that came later. */
+    private static void forgottenDeleted() {
+        CoverOrder x = Check.graph("D5 01 02 03 04 10 12 13 14 20 21");
+        int[] pairs = {2, 10, 4, 21, 1, 13};
+        for (int pair : pairs) {
+            x.delete(pair / 10, pair % 10);
+        }
+        for (int i = 0; i < 5; i++) {
+            x.insert(4, 3);
+            x.delete(4, 3);
+        }
+        Check.due("count(8) after sixteen", x.count(8), 14);
+        for (int left = 13; left >= 0; left--) {
+            Check.due("undo() to " + left, x.undo(), left);
+        }
+        Check.dueRow("that can not be undone", x, "01:1 03:3 04:4 12:6 13:7 14:8 20:9 21:10");
+        Check.due("undo() of what is forgotten", x.undo(), CoverOrder.STATE);
+        Check.due("count(6)", x.count(6), 11);
     }
 
     private static void stamp() {

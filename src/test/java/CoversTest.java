@@ -61,6 +61,8 @@ public final class CoversTest {
         due("D3 01 12 21", 6, 0, 2, 2);
         due("D3 01 12 21", 5, 7, 6, 4);
         due("D4 01 12 23 31 30", 6, 1, 3, 3, 3);
+        // Out of 1 by an edge of its own and by one of 2.
+        due("D3 01 12 20 10", 6, 1, 1, 1);
         due("D4 01 12 21 13", 1, NONE, 0, 1, 1);
     }
 
