@@ -262,7 +262,17 @@ public final class CoverOrder {
         if (edges.isFull()) {
             return FULL;
         }
-        return what == 0 ? countMissing() : firstMissing();
+        int found = 0;
+        int first = NONE;
+        for (int from = 0; from < edges.knots; from++) {
+            for (int to = 0; to < edges.knots; to++) {
+                if (mayBeMissing(from, to)) {
+                    first = found == 0 ? Edges.pair(from, to) : first;
+                    found++;
+                }
+            }
+        }
+        return what == 0 ? found : first;
     }
 
     // ---- shares, chances
@@ -412,29 +422,6 @@ public final class CoverOrder {
             default:
                 return false;
         }
-    }
-
-    private int countMissing() {
-        int found = 0;
-        for (int from = 0; from < edges.knots; from++) {
-            for (int to = 0; to < edges.knots; to++) {
-                if (mayBeMissing(from, to)) {
-                    found++;
-                }
-            }
-        }
-        return found;
-    }
-
-    private int firstMissing() {
-        for (int from = 0; from < edges.knots; from++) {
-            for (int to = 0; to < edges.knots; to++) {
-                if (mayBeMissing(from, to)) {
-                    return Edges.pair(from, to);
-                }
-            }
-        }
-        return NONE;
     }
 
     private boolean mayBeMissing(int from, int to) {
@@ -889,7 +876,7 @@ public final class CoverOrder {
         /** The knot that just these cover: the deepest of them, as the others all cover it. */
         int coveredByJust(int set) {
             for (int knot = 0; knot < MOST_KNOTS; knot++) {
-                if (isReached(knot) && coverersOf(knot) == set) {
+                if (set != 0 && Grid.line(coverers, knot) == set) {
                     return knot;
                 }
             }
