@@ -22,9 +22,11 @@ public final class CoverOrder {
 
     private final Text text;
     private final Edges edges;
+    /** What is tried on a copy, so that nothing is changed. */
     private final Edges trial;
     private final Acts acts;
     private final Edges[] slots;
+    /** A sight is one number: 100 times had, 10 times the knot, and its lid. */
     private final Row seen;
     private final Covers covers;
     private final Covers trialCovers;
