@@ -1,16 +1,13 @@
 /** Promises 6 to 10: insert, delete, undo, stamp, edge. */
 public final class ActsTest {
     private static final int NONE = CoverOrder.NONE;
-    private static final String FULL = "D8 01020304050607 10121314151617 20212324252627 303132";
 
     private ActsTest() {
     }
 
     public static void main(String[] args) {
         insert();
-        insertRefused();
         delete();
-        deleteRefused();
         undoInserted();
         undoDeleted();
         undoMany();
@@ -34,32 +31,6 @@ public final class ActsTest {
         Check.due("knot(3, 2)", x.knot(3, 2), 3);
     }
 
-    private static void insertRefused() {
-        CoverOrder x = Check.graph("D3 01");
-        Check.due("insert(-1, 0)", x.insert(-1, 0), CoverOrder.UNKNOWN);
-        Check.due("insert(0, -1)", x.insert(0, -1), CoverOrder.UNKNOWN);
-        Check.due("insert(3, 0)", x.insert(3, 0), CoverOrder.UNKNOWN);
-        Check.due("insert(0, 3)", x.insert(0, 3), CoverOrder.UNKNOWN);
-        Check.due("insert(3, 3)", x.insert(3, 3), CoverOrder.UNKNOWN);
-        Check.due("insert(0, 12)", x.insert(0, 12), CoverOrder.UNKNOWN);
-        Check.due("insert(least, 0)", x.insert(Integer.MIN_VALUE, 0), CoverOrder.UNKNOWN);
-        Check.due("insert(0, most)", x.insert(0, Integer.MAX_VALUE), CoverOrder.UNKNOWN);
-        Check.due("insert(2, 2)", x.insert(2, 2), CoverOrder.OUTSIDE);
-        Check.due("insert(0, 1)", x.insert(0, 1), CoverOrder.STATE);
-        Check.dueRow("after refusals", x, "01:1");
-        Check.due("count(8)", x.count(8), 0);
-        Check.due("count(6)", x.count(6), 2);
-        x = Check.graph(FULL);
-        Check.due("full: insert(3, 4)", x.insert(3, 4), CoverOrder.FULL);
-        Check.due("full: insert(3, 2)", x.insert(3, 2), CoverOrder.STATE);
-        Check.due("full: insert(4, 4)", x.insert(4, 4), CoverOrder.OUTSIDE);
-        Check.due("full: insert(4, 8)", x.insert(4, 8), CoverOrder.UNKNOWN);
-        Check.due("full: count(8)", x.count(8), 0);
-        Check.due("full: delete(0, 1)", x.delete(0, 1), 1);
-        Check.due("not full: insert(3, 4)", x.insert(3, 4), 25);
-        Check.due("full again: insert(0, 1)", x.insert(0, 1), CoverOrder.FULL);
-    }
-
     private static void delete() {
         CoverOrder x = Check.graph("D4 01 12 23 30");
         Check.due("delete(1, 2)", x.delete(1, 2), 2);
@@ -75,19 +46,6 @@ public final class ActsTest {
         Check.due("count(2)", x.count(2), 0);
         Check.due("count(6)", x.count(6), 7);
         Check.due("count(8)", x.count(8), 8);
-    }
-
-    private static void deleteRefused() {
-        CoverOrder x = Check.graph("D3 01 12");
-        Check.due("delete(-1, 0)", x.delete(-1, 0), CoverOrder.UNKNOWN);
-        Check.due("delete(0, -1)", x.delete(0, -1), CoverOrder.UNKNOWN);
-        Check.due("delete(3, 1)", x.delete(3, 1), CoverOrder.UNKNOWN);
-        Check.due("delete(0, 12)", x.delete(0, 12), CoverOrder.UNKNOWN);
-        Check.due("delete(1, 0)", x.delete(1, 0), CoverOrder.STATE);
-        Check.due("delete(1, 1)", x.delete(1, 1), CoverOrder.STATE);
-        Check.due("delete(0, 2)", x.delete(0, 2), CoverOrder.STATE);
-        Check.dueRow("after refusals", x, "01:1 12:2");
-        Check.due("count(8)", x.count(8), 0);
     }
 
     private static void undoInserted() {

@@ -1,16 +1,13 @@
 /** Promises 20 to 23: share, spared, seed, drawn. */
 public final class ChancesTest {
-    private static final String FULL = "D8 01020304050607 10121314151617 20212324252627 303132";
 
     private ChancesTest() {
     }
 
     public static void main(String[] args) {
         share();
-        shareRefused();
         spared();
         sparedOfAnyKnot();
-        sparedRefused();
         seed();
         drawn();
         drawnStepByStep();
@@ -46,20 +43,6 @@ public final class ChancesTest {
         Check.dueRow("after share", x, "01:1 02:2 12:3");
     }
 
-    private static void shareRefused() {
-        CoverOrder x = Check.graph("D3 01 12");
-        for (int i = 0; i < 2; i++) {
-            boolean upper = i == 0;
-            Check.due("share(-1, 0)", x.share(-1, 0, upper), CoverOrder.UNKNOWN);
-            Check.due("share(0, -1)", x.share(0, -1, upper), CoverOrder.UNKNOWN);
-            Check.due("share(3, 0)", x.share(3, 0, upper), CoverOrder.UNKNOWN);
-            Check.due("share(0, 12)", x.share(0, 12, upper), CoverOrder.UNKNOWN);
-            Check.due("share(0, 2)", x.share(0, 2, upper), CoverOrder.STATE);
-            Check.due("share(1, 0)", x.share(1, 0, upper), CoverOrder.STATE);
-            Check.due("share(1, 1)", x.share(1, 1, upper), CoverOrder.STATE);
-        }
-    }
-
     /** Rows of v, tenths, above, below. */
     private static void spared(String text, int knot, int... want) {
         CoverOrder x = Check.graph(text);
@@ -90,21 +73,6 @@ public final class ChancesTest {
         spared("D4 01 23", 1, 2, 5, 1, 1, 3, 5, 0, 1);
         spared("D4 01 23", 2, 2, 5, 1, 1, 3, 5, 0, 1);
         spared("D1", 0, 0, 5, 1, 1, 1, 5, 1, 1, 2, 5, 0, 1);
-    }
-
-    private static void sparedRefused() {
-        CoverOrder x = Check.graph("D3 01 12");
-        for (int i = 0; i < 2; i++) {
-            boolean upper = i == 0;
-            Check.due("spared(-1, 0, 0)", x.spared(-1, 0, 0, upper), CoverOrder.UNKNOWN);
-            Check.due("spared(3, 0, 0)", x.spared(3, 0, 0, upper), CoverOrder.UNKNOWN);
-            Check.due("spared(3, 9, 11)", x.spared(3, 9, 11, upper), CoverOrder.UNKNOWN);
-            Check.due("spared(0, -1, 0)", x.spared(0, -1, 0, upper), CoverOrder.OUTSIDE);
-            Check.due("spared(0, 9, 0)", x.spared(0, 9, 0, upper), CoverOrder.OUTSIDE);
-            Check.due("spared(0, 0, -1)", x.spared(0, 0, -1, upper), CoverOrder.OUTSIDE);
-            Check.due("spared(0, 0, 11)", x.spared(0, 0, 11, upper), CoverOrder.OUTSIDE);
-            Check.due("spared(0, 8, 10) in bounds", x.spared(0, 8, 10, upper), upper ? 0 : 1);
-        }
     }
 
     private static void seed() {
@@ -168,9 +136,9 @@ public final class ChancesTest {
 
     /** With 24 edges none can come until one has gone. */
     private static void drawnWhereNoneCanCome() {
-        CoverOrder x = Check.graph(FULL);
+        CoverOrder x = Check.graph(Check.FULL);
         Oracle o = new Oracle();
-        for (char c : FULL.replace(" ", "").toCharArray()) {
+        for (char c : Check.FULL.replace(" ", "").toCharArray()) {
             o.write(c);
         }
         o.graph();

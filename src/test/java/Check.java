@@ -1,9 +1,34 @@
 /** What the tests share: answers compared with what is due, and objects with a graph. */
 final class Check {
+    /** Eight knots, twenty-four edges: all from 0 to 2, three from 3. */
+    static final String FULL = "D8 01020304050607 10121314151617 20212324252627 303132";
+    static final String CHAIN = "D8 01 12 23 34 45 56 67";
+    static final int LEAST = Integer.MIN_VALUE, MOST = Integer.MAX_VALUE;
+
+    private static final long TWO_MINUTES = 120_000;
+
     private static int wrong = 0;
     private static int seen = 0;
 
+    static {
+        // A call that does not end is wrong, too.
+        Thread watch = new Thread(Check::haltLate);
+        watch.setDaemon(true);
+        watch.start();
+    }
+
     private Check() {
+    }
+
+    private static void haltLate() {
+        try {
+            Thread.sleep(TWO_MINUTES);
+        } catch (InterruptedException e) {
+            System.out.println("the watch was cut short");
+        }
+        System.out.println("a call did not end; the last answer was number " + seen);
+        System.out.flush();
+        Runtime.getRuntime().halt(1);
     }
 
     static void due(String call, long got, long want) {
@@ -11,6 +36,20 @@ final class Check {
         if (got != want) {
             wrong++;
             System.out.println(call + " answered " + got + ", due is " + want);
+        }
+    }
+
+    /** One sentence of the document, by the test that it has for itself. */
+    static void sentence(String words, Runnable test) {
+        int wrongBefore = wrong;
+        int seenBefore = seen;
+        test.run();
+        if (seen == seenBefore) {
+            wrong++;
+            System.out.println("nothing was looked at");
+        }
+        if (wrong != wrongBefore) {
+            System.out.println("    so this does not hold: " + words);
         }
     }
 
@@ -27,6 +66,13 @@ final class Check {
         }
     }
 
+    /** How many edges the graph has that the text without its blanks is made. */
+    static int regraphed(CoverOrder x, String text) {
+        x.wipe();
+        write(x, text.replace(" ", ""));
+        return x.graph();
+    }
+
     /** A new object whose graph is the text without its blanks. */
     static CoverOrder graph(String text) {
         CoverOrder x = new CoverOrder();
@@ -35,19 +81,18 @@ final class Check {
     }
 
     static void regraph(CoverOrder x, String text) {
-        String letters = text.replace(" ", "");
-        x.wipe();
-        write(x, letters);
-        due("graph() of " + text, x.graph(), (letters.length() - 2) / 2);
+        int edges = (text.replace(" ", "").length() - 2) / 2;
+        due("graph() of " + text, regraphed(x, text), edges);
     }
 
     /** The edges in their row with their stamps, as text: 01:1 12:2 .. */
     static String row(CoverOrder x) {
         StringBuilder row = new StringBuilder();
-        for (int i = 0; x.edge(i) >= 0; i++) {
-            int pair = x.edge(i);
-            row.append(i == 0 ? "" : " ").append(pair / 10).append(pair % 10);
+        int place = 0;
+        for (int pair = x.edge(0); pair >= 0; pair = x.edge(place)) {
+            row.append(place == 0 ? "" : " ").append(pair / 10).append(pair % 10);
             row.append(':').append(x.stamp(pair / 10, pair % 10));
+            place++;
         }
         return row.toString();
     }

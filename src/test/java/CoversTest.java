@@ -1,7 +1,6 @@
 /** Promises 11 to 13: knot, nearest, would. */
 public final class CoversTest {
     private static final int NONE = CoverOrder.NONE;
-    private static final String FULL = "D8 01020304050607 10121314151617 20212324252627 303132";
 
     private CoversTest() {
     }
@@ -13,11 +12,9 @@ public final class CoversTest {
         notReached();
         order();
         half();
-        knotRefused();
         nearest();
         wouldInsert();
         wouldDelete();
-        wouldRefused();
         Check.end("CoversTest");
     }
 
@@ -108,18 +105,6 @@ public final class CoversTest {
         due("D4 01 12 23 31", 4, NONE, 0, 1, 2);
     }
 
-    private static void knotRefused() {
-        CoverOrder x = Check.graph("D3 01 12");
-        Check.due("knot(-1, 0)", x.knot(-1, 0), CoverOrder.UNKNOWN);
-        Check.due("knot(3, 0)", x.knot(3, 0), CoverOrder.UNKNOWN);
-        Check.due("knot(3, 7)", x.knot(3, 7), CoverOrder.UNKNOWN);
-        Check.due("knot(most, -1)", x.knot(Integer.MAX_VALUE, -1), CoverOrder.UNKNOWN);
-        Check.due("knot(least, -1)", x.knot(Integer.MIN_VALUE, -1), CoverOrder.UNKNOWN);
-        Check.due("knot(0, -1)", x.knot(0, -1), CoverOrder.OUTSIDE);
-        Check.due("knot(2, 7)", x.knot(2, 7), CoverOrder.OUTSIDE);
-        Check.due("knot(0, most)", x.knot(0, Integer.MAX_VALUE), CoverOrder.OUTSIDE);
-    }
-
     private static void nearest() {
         CoverOrder x = Check.graph("D8 01 02 13 14 25 46 74");
         int[][] due = {{3, 6, 1}, {6, 4, 4}, {4, 6, 4}, {6, 5, 0}, {6, 6, 6}, {0, 3, 0}, {3, 4, 1},
@@ -163,22 +148,5 @@ public final class CoversTest {
         Check.due("count(6) after would", x.count(6), 3);
         Check.due("count(8) after would", x.count(8), 0);
         Check.due("knot(2, 1) after would", x.knot(2, 1), 1);
-    }
-
-    private static void wouldRefused() {
-        CoverOrder x = Check.graph("D3 01 12");
-        Check.due("would(-1, 0)", x.would(-1, 0), CoverOrder.UNKNOWN);
-        Check.due("would(0, -1)", x.would(0, -1), CoverOrder.UNKNOWN);
-        Check.due("would(3, 0)", x.would(3, 0), CoverOrder.UNKNOWN);
-        Check.due("would(0, 3)", x.would(0, 3), CoverOrder.UNKNOWN);
-        Check.due("would(3, 3)", x.would(3, 3), CoverOrder.UNKNOWN);
-        Check.due("would(1, 1)", x.would(1, 1), CoverOrder.OUTSIDE);
-        x = Check.graph(FULL);
-        Check.due("full: would(3, 4)", x.would(3, 4), CoverOrder.FULL);
-        Check.due("full: would(4, 4)", x.would(4, 4), CoverOrder.OUTSIDE);
-        Check.due("full: would(8, 4)", x.would(8, 4), CoverOrder.UNKNOWN);
-        Check.due("full: would(3, 2)", x.would(3, 2), 0);
-        x.delete(3, 2);
-        Check.due("not full: would(3, 4)", x.would(3, 4), 0);
     }
 }

@@ -3,8 +3,6 @@ public final class GraphTest {
     private static final int NONE = CoverOrder.NONE;
     /** Five knots, each with edges to all others: twenty edges. */
     private static final String ALL_OF_FIVE = "D5 01020304 10121314 20212324 30313234 40414243";
-    /** Eight knots, twenty-four edges: all from 0 to 2, three from 3. */
-    private static final String FULL = "D8 01020304050607 10121314151617 20212324252627 303132";
 
     private GraphTest() {
     }
@@ -17,7 +15,6 @@ public final class GraphTest {
         faultOfEdges();
         faultWhereNothingFits();
         graph();
-        graphRefused();
         graphAnew();
         Check.end("GraphTest");
     }
@@ -142,13 +139,13 @@ public final class GraphTest {
         for (char first = '0'; first <= '5'; first++) {
             fault(ALL_OF_FIVE + first, 42);
         }
-        fault(FULL, NONE);
-        fault(FULL.substring(0, FULL.length() - 1), 49);
+        fault(Check.FULL, NONE);
+        fault(Check.FULL.substring(0, Check.FULL.length() - 1), 49);
         for (char first = '0'; first <= '8'; first++) {
-            fault(FULL + first, 50);
+            fault(Check.FULL + first, 50);
         }
-        fault(FULL + "333435363736", 50);
-        fault(FULL + "33343536373641", 50);
+        fault(Check.FULL + "333435363736", 50);
+        fault(Check.FULL + "33343536373641", 50);
     }
 
     private static void graph() {
@@ -169,35 +166,14 @@ public final class GraphTest {
         x.write('3');
         Check.due("graph() of a longer text", x.graph(), 4);
         Check.dueRow("of a longer text", x, "23:1 01:2 02:3 13:4");
-        Check.due("graph() of D1", regraphed(x, "D1"), 0);
+        Check.due("graph() of D1", Check.regraphed(x, "D1"), 0);
         Check.due("count(1) of D1", x.count(1), 1);
         Check.due("count(6) of D1", x.count(6), 1);
-        Check.due("graph() of 24 edges", regraphed(x, FULL), 24);
+        Check.due("graph() of 24 edges", Check.regraphed(x, Check.FULL), 24);
         Check.due("edge(23)", x.edge(23), 32);
         Check.due("edge(24)", x.edge(24), NONE);
         Check.due("stamp(3, 2)", x.stamp(3, 2), 24);
         Check.due("count(6) of 24 edges", x.count(6), 25);
-    }
-
-    private static int regraphed(CoverOrder x, String text) {
-        x.wipe();
-        Check.write(x, text.replace(" ", ""));
-        return x.graph();
-    }
-
-    private static void graphRefused() {
-        CoverOrder x = Check.graph("D3 01 12");
-        x.insert(2, 0);
-        x.keep(1);
-        String[] texts = {"", "D", "D0", "D3 0", "D3 01 0", "D3 01 01", "D2 01 10 0", "XD2"};
-        for (String text : texts) {
-            Check.due("graph() of " + text, regraphed(x, text), CoverOrder.STATE);
-        }
-        Check.dueRow("after refused graphs", x, "01:1 12:2 20:3");
-        Check.due("count(1)", x.count(1), 3);
-        Check.due("count(6)", x.count(6), 4);
-        Check.due("count(8)", x.count(8), 1);
-        Check.due("again(1)", x.again(1), 3);
     }
 
     private static void graphAnew() {

@@ -1,7 +1,6 @@
 /** Promises 17 to 19: see, unsee, missing. */
 public final class SeenTest {
     private static final int NONE = CoverOrder.NONE;
-    private static final String FULL = "D8 01020304050607 10121314151617 20212324252627 303132";
 
     private SeenTest() {
     }
@@ -13,7 +12,6 @@ public final class SeenTest {
         missingNotHad();
         missingOfNoKnot();
         missingStaysUnderEdits();
-        missingRefused();
         Check.end("SeenTest");
     }
 
@@ -121,19 +119,5 @@ public final class SeenTest {
         Check.due("missing(1) without 12", x.missing(1), 12);
         Check.regraph(x, "D4 03 31");
         Check.due("missing(1) in another graph", x.missing(1), 12);
-    }
-
-    private static void missingRefused() {
-        CoverOrder x = Check.graph("D3 01");
-        Check.due("missing(-1)", x.missing(-1), CoverOrder.OUTSIDE);
-        Check.due("missing(2)", x.missing(2), CoverOrder.OUTSIDE);
-        Check.due("missing(most)", x.missing(Integer.MAX_VALUE), CoverOrder.OUTSIDE);
-        x = Check.graph(FULL);
-        Check.due("full: missing(0)", x.missing(0), CoverOrder.FULL);
-        Check.due("full: missing(1)", x.missing(1), CoverOrder.FULL);
-        Check.due("full: missing(2)", x.missing(2), CoverOrder.OUTSIDE);
-        x.delete(0, 1);
-        Check.due("not full: missing(0)", x.missing(0), 33);
-        Check.due("not full: missing(1)", x.missing(1), 1);
     }
 }

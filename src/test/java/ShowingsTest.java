@@ -1,7 +1,6 @@
 /** Promises 14 to 16: showing, look, judge. */
 public final class ShowingsTest {
     private static final int NONE = CoverOrder.NONE;
-    private static final String FULL = "D8 01020304050607 10121314151617 20212324252627 303132";
 
     private ShowingsTest() {
     }
@@ -12,13 +11,11 @@ public final class ShowingsTest {
         showingOutside();
         lookAtPlaces();
         lookAtWhatShows();
-        lookRefused();
         judgeEdges();
         judgeCovers();
         judgeWhatWasDone();
         judgeWhatCanNotBe();
         judgeFull();
-        judgeRefused();
         Check.end("ShowingsTest");
     }
 
@@ -97,25 +94,6 @@ public final class ShowingsTest {
         look("D5 02 34 32 42", 2, NONE);
     }
 
-    private static void lookRefused() {
-        CoverOrder x = Check.graph("D4 01 23");
-        Check.due("look(-1)", x.look(-1), CoverOrder.OUTSIDE);
-        Check.due("look(100)", x.look(100), CoverOrder.OUTSIDE);
-        Check.due("look(99)", x.look(99), 0);
-        Check.due("look(least)", x.look(Long.MIN_VALUE), CoverOrder.OUTSIDE);
-        Check.due("look(most)", x.look(Long.MAX_VALUE), CoverOrder.OUTSIDE);
-        Check.due("look(2^32)", x.look(1L << 32), CoverOrder.OUTSIDE);
-        Check.due("look(2^32 + 1)", x.look((1L << 32) + 1), CoverOrder.OUTSIDE);
-        x.insert(1, 2);
-        Check.due("look(123)", x.look(123), NONE);
-        Check.due("look(9999)", x.look(9999), 0);
-        Check.due("look(10000)", x.look(10000), CoverOrder.OUTSIDE);
-        x = Check.graph("D8 01 12 23 34 45 56 67");
-        Check.due("look(99999999)", x.look(99999999), 0);
-        Check.due("look(100000000)", x.look(100000000), CoverOrder.OUTSIDE);
-        Check.due("look(4300000000)", x.look(4300000000L), CoverOrder.OUTSIDE);
-    }
-
     private static void judge(String text, long... want) {
         CoverOrder x = Check.graph(text);
         String row = Check.row(x);
@@ -172,27 +150,7 @@ public final class ShowingsTest {
     }
 
     private static void judgeFull() {
-        judge(FULL, 1, 134, 0, 1, 132, 0, 2, 232134, NONE, 3, 232134135, 2, 3, 232134132, 2,
+        judge(Check.FULL, 1, 134, 0, 1, 132, 0, 2, 232134, NONE, 3, 232134135, 2, 3, 232134132, 2,
                 2, 232132, NONE, 1, 808, NONE);
-    }
-
-    private static void judgeRefused() {
-        CoverOrder x = Check.graph("D3 01 12");
-        Check.due("judge(0, 0)", x.judge(0, 0), CoverOrder.OUTSIDE);
-        Check.due("judge(5, 0)", x.judge(5, 0), CoverOrder.OUTSIDE);
-        Check.due("judge(-1, 300)", x.judge(-1, 300), CoverOrder.OUTSIDE);
-        Check.due("judge(most, 300)", x.judge(Integer.MAX_VALUE, 300), CoverOrder.OUTSIDE);
-        Check.due("judge(least, 300)", x.judge(Integer.MIN_VALUE, 300), CoverOrder.OUTSIDE);
-        Check.due("judge(1, -1)", x.judge(1, -1), CoverOrder.OUTSIDE);
-        Check.due("judge(1, 999)", x.judge(1, 999), 0);
-        Check.due("judge(1, 1000)", x.judge(1, 1000), CoverOrder.OUTSIDE);
-        Check.due("judge(2, 300999)", x.judge(2, 300999), 1);
-        Check.due("judge(2, 1000000)", x.judge(2, 1000000), CoverOrder.OUTSIDE);
-        Check.due("judge(3, 10^9 - 1)", x.judge(3, 999999999L), 0);
-        Check.due("judge(3, 10^9)", x.judge(3, 1000000000L), CoverOrder.OUTSIDE);
-        Check.due("judge(4, 10^12 - 1)", x.judge(4, 999999999999L), 0);
-        Check.due("judge(4, 10^12)", x.judge(4, 1000000000000L), CoverOrder.OUTSIDE);
-        Check.due("judge(4, least)", x.judge(4, Long.MIN_VALUE), CoverOrder.OUTSIDE);
-        Check.due("judge(4, most)", x.judge(4, Long.MAX_VALUE), CoverOrder.OUTSIDE);
     }
 }

@@ -9,9 +9,7 @@ public final class SlotsTest {
         keepAndAgain();
         twoSlots();
         whatIsNotKept();
-        refused();
         count();
-        countRefused();
         Check.end("SlotsTest");
     }
 
@@ -77,20 +75,6 @@ public final class SlotsTest {
         Check.due("count(1)", x.count(1), 2);
     }
 
-    private static void refused() {
-        CoverOrder x = Check.graph("D3 01 12");
-        int[] slots = {-1, 2, 8, 32, Integer.MIN_VALUE, Integer.MAX_VALUE};
-        for (int slot : slots) {
-            Check.due("keep(" + slot + ")", x.keep(slot), CoverOrder.UNKNOWN);
-            Check.due("again(" + slot + ")", x.again(slot), CoverOrder.UNKNOWN);
-        }
-        x.insert(2, 0);
-        Check.due("again(0)", x.again(0), CoverOrder.STATE);
-        Check.due("again(1)", x.again(1), CoverOrder.STATE);
-        Check.due("count(8) after refused again", x.count(8), 1);
-        Check.dueRow("after refusals", x, "01:1 12:2 20:3");
-    }
-
     private static void due(CoverOrder x, int... want) {
         String row = Check.row(x);
         for (int what = 0; what < want.length; what++) {
@@ -114,13 +98,5 @@ public final class SlotsTest {
         x.wipe();
         due(x, 0, 7, 7, 6, 12, 4, 9, 6, 2, 0);
         due(Check.graph("D8 01 12 23 34 45 56 67"), 16, 8, 7, 8, 28, 7, 8, 7, 0, 0);
-    }
-
-    private static void countRefused() {
-        CoverOrder x = new CoverOrder();
-        Check.due("count(-1)", x.count(-1), CoverOrder.OUTSIDE);
-        Check.due("count(10)", x.count(10), CoverOrder.OUTSIDE);
-        Check.due("count(most)", x.count(Integer.MAX_VALUE), CoverOrder.OUTSIDE);
-        Check.due("count(least)", x.count(Integer.MIN_VALUE), CoverOrder.OUTSIDE);
     }
 }
