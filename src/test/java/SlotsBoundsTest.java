@@ -247,6 +247,8 @@ public final class SlotsBoundsTest {
         count("D4 10 23 32 31", 7, 0);
         count("D4 01 10 23 32 31 20", 7, 2);
         count(Check.CHAIN, 7, 7);
+        count("D8 02 27 31", 7, 2);
+        count("D8 07 76 10 12", 7, 2);
         count(Check.FULL, 7, 24);
     }
 
