@@ -1,14 +1,11 @@
 import java.lang.reflect.Field;
 import java.lang.reflect.Method;
 import java.lang.reflect.Modifier;
-import java.nio.charset.StandardCharsets;
-import java.nio.file.Files;
-import java.nio.file.Path;
 import java.util.ArrayList;
 import java.util.Arrays;
 import java.util.List;
 
-/** The public face of the document, and what of LANGUAGE.md can be seen without judgement. */
+/** The public face of the document. */
 public final class FaceTest {
     private static final String[] METHODS = {
         "int again(int)", "int count(int)", "int delete(int,int)", "int drawn(int)",
@@ -18,18 +15,14 @@ public final class FaceTest {
         "int share(int,int,boolean)", "int showing(int)", "int spared(int,int,int,boolean)",
         "int stamp(int,int)", "int undo()", "int unsee()", "int wipe()", "int would(int,int)",
         "int write(int)", "long seed(long)"};
-    private static final String[] FORBIDDEN = {"throw", "throws", "try", "catch", "finally",
-        "synchronized", "assert", "native", "volatile", "package", "Thread", "Random", "Object",
-        "Exception", "Throwable", "Error"};
 
     private FaceTest() {
     }
 
-    public static void main(String[] args) throws Exception {
+    public static void main(String[] args) {
         constants();
         methods();
         members();
-        words();
         Check.end("FaceTest");
     }
 
@@ -89,20 +82,5 @@ public final class FaceTest {
             yes(inside + " is static and not public",
                     Modifier.isStatic(m) && !Modifier.isPublic(m) && !Modifier.isProtected(m));
         }
-    }
-
-    private static void words() throws Exception {
-        String source = Files.readString(Path.of("src/main/java/CoverOrder.java"),
-                StandardCharsets.ISO_8859_1);
-        String code = source.replaceAll("(?s)/\\*.*?\\*/", " ").replaceAll("//[^\n]*", " ")
-                .replaceAll("\"(\\\\.|[^\"\\\\])*\"", "\"\"");
-        List<String> words = Arrays.asList(code.split("[^A-Za-z0-9_]+"));
-        for (String word : FORBIDDEN) {
-            yes("no word " + word, !words.contains(word));
-        }
-        yes("no method reference", !code.contains("::"));
-        yes("nothing of System but arraycopy",
-                !code.replace("System.arraycopy", "").contains("System."));
-        yes("no text of signs beyond 127", source.chars().allMatch(c -> c < 128));
     }
 }
