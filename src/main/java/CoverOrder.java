@@ -56,16 +56,16 @@ public final class CoverOrder {
         if (letter < 0 || letter > 255) {
             return OUTSIDE;
         }
-        if (text.letters.isFull()) {
+        if (text.isFull()) {
             return FULL;
         }
-        text.letters.add(letter);
-        return text.letters.size();
+        text.add(letter);
+        return text.length();
     }
 
     public int wipe() {
-        int length = text.letters.size();
-        text.letters.clear();
+        int length = text.length();
+        text.clear();
         return length;
     }
 
@@ -200,7 +200,7 @@ public final class CoverOrder {
             return NONE;
         }
         least.find(covers);
-        return least.row.at(i);
+        return least.knotAt(i);
     }
 
     public int look(long row) {
@@ -354,7 +354,7 @@ public final class CoverOrder {
     public int count(int what) {
         switch (what) {
             case 0:
-                return text.letters.size();
+                return text.length();
             case 1:
                 return edges.knots;
             case 2:
@@ -603,9 +603,25 @@ public final class CoverOrder {
     private static final class Text {
         private final Row letters = new Row(MOST_LETTERS);
 
+        int length() {
+            return letters.size();
+        }
+
+        boolean isFull() {
+            return letters.isFull();
+        }
+
+        void add(int letter) {
+            letters.add(letter);
+        }
+
+        void clear() {
+            letters.clear();
+        }
+
         int firstFault() {
             long grid = 0;
-            for (int place = 0; place < letters.size(); place++) {
+            for (int place = 0; place < length(); place++) {
                 if (!fits(place, grid)) {
                     return place;
                 }
@@ -613,13 +629,13 @@ public final class CoverOrder {
                     grid = Grid.flipped(grid, figureAt(place - 1), figureAt(place));
                 }
             }
-            boolean ended = letters.size() >= 2 && letters.size() % 2 == 0;
-            return ended ? NONE : letters.size();
+            boolean ended = length() >= 2 && length() % 2 == 0;
+            return ended ? NONE : length();
         }
 
         void readInto(Edges edges) {
             edges.restart(figureAt(1));
-            for (int place = 3; place < letters.size(); place += 2) {
+            for (int place = 3; place < length(); place += 2) {
                 edges.append(figureAt(place - 1), figureAt(place));
             }
         }
@@ -1053,6 +1069,10 @@ public final class CoverOrder {
             deadEnds.clear();
             row.add(ROOT);
             fill(this, covers, Grid.only(ROOT), 1);
+        }
+
+        int knotAt(int place) {
+            return row.at(place);
         }
 
         /**
